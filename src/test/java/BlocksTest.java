@@ -229,6 +229,12 @@ public final class BlocksTest {
     }
 
     private static void guesses() {
+        ChipFloor y = new ChipFloor();
+        y.net(3, 7);
+        y.block(0, 3, 1);
+        due.is("8: the root of 3", y.wire(0, 1), 7 * 2);
+        y.block(0, 1, 1);
+        due.is("8: the root of 4", y.wire(0, 1), 7 * 2 * 2);
         ChipFloor x = new ChipFloor();
         x.net(131, 5);
         due.is("8: guess without blocks", x.wire(0, 1), 0);

@@ -117,6 +117,11 @@ public final class ImagesTest {
     private static void keep() {
         ChipFloor x = new ChipFloor();
         due.is("38: no blocks", x.keep(), 0);
+        x.block(0, 3, 3);
+        due.is("39: no blocks", x.back(), 0);
+        for (int what = 0; what <= 4; what++) {
+            due.is("39: whole(" + what + ") without blocks", x.whole(what), 0);
+        }
         x.block(0, 1, 1);
         x.block(0, 1, 1);
         x.move(0, 0, 1);

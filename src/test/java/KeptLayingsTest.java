@@ -83,6 +83,13 @@ public final class KeptLayingsTest {
     }
 
     private static void alikeOnesDoNotBeat() {
+        ChipFloor y = new ChipFloor();
+        y.block(0, 2, 2);
+        y.stow();
+        y.power(0, 1);
+        y.stow();
+        due.is("26: beaten by the first", y.stowed(1, 3), 1);
+        due.is("27: the first", y.front(), 1);
         ChipFloor x = new ChipFloor();
         x.block(0, 2, 2);
         x.block(0, 2, 2);

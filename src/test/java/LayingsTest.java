@@ -19,7 +19,9 @@ public final class LayingsTest {
         bounds();
         best();
         bestOfEqualOnes();
+        bestOfAllLayings();
         touch();
+        touchAndLieOverForOne();
         heat();
         grows();
         due.end();
@@ -272,6 +274,11 @@ public final class LayingsTest {
         due.is("16: 0 of both layers", x.bound(0), 23);
         x.move(4, 0, 0);
         due.is("16: 0 of LAYER 1", x.bound(0), 35);
+        ChipFloor z = new ChipFloor();
+        z.block(0, 9, 8);
+        z.block(0, 2, 3);
+        due.is("16: 1 of the first", z.bound(1), 9);
+        due.is("16: 2 of the first", z.bound(2), 8);
         ChipFloor y = new ChipFloor();
         y.block(3, 1, 3);
         // heights 3, 2, 1, 2, 2
@@ -323,6 +330,81 @@ public final class LayingsTest {
         for (int i = 0; i < 8; i++) {
             due.is("17: the first of all", x.best(i / 4, i % 4), i % 4);
         }
+    }
+
+    /** All 576 layings of four blocks, each made by moves on an object of its own. */
+    private static void bestOfAllLayings() {
+        int least = Integer.MAX_VALUE;
+        int[] first = new int[8];
+        for (int i = 0; i < 576; i++) {
+            int[] rows = new int[8];
+            ChipFloor y = arranged(i / 24, i % 24, rows);
+            if (y.whole(4) < least) {
+                least = y.whole(4);
+                first = rows;
+            }
+        }
+        ChipFloor x = arranged(17, 5, new int[8]);
+        due.is("16: 3 of four blocks", x.bound(3), least);
+        for (int i = 0; i < 8; i++) {
+            due.is("17: of four blocks", x.best(i / 4, i % 4), first[i]);
+        }
+    }
+
+    private static ChipFloor arranged(int oneOrder, int otherOrder, int[] rows) {
+        ChipFloor x = new ChipFloor();
+        x.block(0, 7, 2);
+        x.block(0, 3, 5);
+        x.block(0, 4, 4);
+        x.block(0, 2, 6);
+        x.net(6, 9);
+        x.net(9, 8);
+        x.net(12, 1);
+        int[] orders = {oneOrder, otherOrder};
+        for (int row = 0; row < 2; row++) {
+            int left = orders[row];
+            int[] parts = {6, 2, 1};
+            for (int place = 0; place < 3; place++) {
+                // the lesser numbers keep their order behind the one that is drawn to the place
+                for (int k = place + left / parts[place]; k > place; k--) {
+                    x.move(row, k, k - 1);
+                }
+                left %= parts[place];
+            }
+            for (int place = 0; place < 4; place++) {
+                rows[4 * row + place] = x.at(row, place);
+            }
+        }
+        return x;
+    }
+
+    private static void touchAndLieOverForOne() {
+        ChipFloor x = new ChipFloor();
+        x.block(0, 2, 1);
+        x.block(0, 2, 3);
+        x.power(1, 7);
+        due.is("18: along y for 1", x.touch(0, 1), 1);
+        ChipFloor y = new ChipFloor();
+        y.block(0, 1, 3);
+        y.block(0, 4, 3);
+        y.power(1, 7);
+        y.move(0, 0, 1);
+        due.is("18: along x for 1", y.touch(0, 1), 1);
+        x.move(4, 1, 0);
+        due.is("3: lies over for 1 in y", x.told(0, 13), 14);
+        y.move(4, 1, 0);
+        due.is("3: lies over for 1 in x", y.told(0, 13), 14);
+        ChipFloor z = new ChipFloor();
+        z.block(0, 2, 2);
+        z.block(0, 3, 3);
+        z.block(0, 3, 3);
+        z.power(2, 7);
+        z.move(4, 1, 0);
+        // 2 at (2, 0) right of 0; 1 over both, for 1 over 2
+        due.is("3: lies over for 1", z.told(1, 13), 14);
+        z.move(4, 2, 0);
+        // 2 at (3, 0) on the layer of 1, beside 0 but not over it
+        due.is("3: beside on the other layer", z.told(0, 13), 0);
     }
 
     private static void touch() {

@@ -36,9 +36,11 @@ public final class SheetsTest {
         for (int sort = 0; sort < 3; sort++) {
             due.is("28: 24", x.sheet(sort, sort, 24), 24);
             due.is("28: all 0", x.mark(sort, 23, 5), 0);
+            x.mark(sort, 0, 6);
         }
         due.is("28: anew", x.sheet(1, 1, 24), 24);
         due.is("28: all 0 again", x.mark(1, 23, 7), 0);
+        due.is("28: the first too", x.mark(1, 0, 7), 0);
         due.is("28: refused", x.sheet(1, 1, 25), BAD);
         due.is("28: refused, as it was", x.mark(1, 23, 7), 7);
         due.is("28: missing, n any", x.sheet(1, -1, 99), 0);
@@ -93,6 +95,9 @@ public final class SheetsTest {
             due.is("30: none changed", x.powers(1, 1), 0);
             due.is("30: one is below 0", x.powers(1, 2), KIND);
             due.is("30: refused", x.told(0, 3), 4);
+            x.mark(1, 0, 100);
+            due.is("30: the first is above 99", x.powers(1, 0), KIND);
+            x.mark(1, 0, 0);
             due.is("30: from 0 on", x.powers(1, 0), 3);
             due.is("30: 2", x.told(2, 3), 0);
         }

@@ -91,6 +91,15 @@ public final class WishesTest {
         fault("al", 0);
         fault("alll w", 0);
         fault("allw", 0);
+        fault("abc w", 0);
+        fault("lla w", 0);
+        fault("all wz", 4);
+        fault("all 1z", 5);
+        fault("all 1`", 5);
+        fault("all 1{", 5);
+        fault("all 1:", 5);
+        fault("blocc 1 x", 0);
+        fault("clock 1 x", 0);
         fault("All w", 0);
         fault("w", 0);
         fault("7", 0);
