@@ -604,6 +604,14 @@ final class EdgesOfBlocks {
             y.block(0, 30, i == 3 ? 1 : 30);
         }
         e.due(9 * (420 + 29), y, "wire", 0, 0);
+        // over one another: middles (4, 3), (3, 9), (5, 16)
+        ChipFloor pile = Edges.with(0, 4, 3, 0, 3, 3, 0, 5, 4);
+        pile.net(7, 3);
+        pile.net(6, 1);
+        pile.move(0, 0, 2);
+        e.due(6, pile, "told", 2, 11);
+        e.due(3 * (2 + 13), pile, "wire", 0, 0);
+        e.due(2 + 7, pile, "wire", 1, 0);
         // alike middles
         ChipFloor z = Edges.with(0, 4, 4, 0, 4, 4);
         z.net(3, 9);

@@ -696,15 +696,9 @@ final class EdgesOfLayings {
 
     private void leastPrice() {
         e.says(16, "3 the least PRICE of all LAYINGS with SHAPES and LAYERS as they are (rows in all orders): told for 4 BLOCKS at most");
-        for (int state = 0; state < 6; state++) {
-            int least = MOST;
-            for (int i = 0; i < 36; i++) {
-                least = Math.min(least, ordered(state, i / 6, i % 6).whole(4));
-            }
-            ChipFloor x = ordered(state, state, 5 - state);
-            e.due(least, x, "bound", 3);
-            x.walk(1, 0);
-            e.is("walk is not below the bound", x.whole(4) >= x.bound(3) ? 1 : 0, 1);
+        for (Supplier<ChipFloor> made : searched()) {
+            int[] found = firstOfTheLeast(made);
+            e.due(found[0], made.get(), "bound", 3);
         }
         ChipFloor four = Edges.with(0, 30, 30, 0, 30, 30, 0, 30, 30, 0, 30, 30);
         e.due(3600, four, "bound", 3);
@@ -718,32 +712,97 @@ final class EdgesOfLayings {
         e.is("whether what can be undone stays", View.TRAIL.of(y).equals(View.TRAIL.of(States.some())) ? 1 : 0, 1);
     }
 
-    /** Three blocks in shapes and layers of that state, with the rows in those of the six orders. */
-    private static ChipFloor ordered(int state, int one, int other) {
-        ChipFloor x = Edges.with(1, 5, 2, 5, 3, 4, 2, 2, 6);
-        x.net(5, 3);
-        x.net(6, 1);
+    /** One to four blocks, among them such whose best rows are the last that are gone through. */
+    private static List<Supplier<ChipFloor>> searched() {
+        List<Supplier<ChipFloor>> all = new ArrayList<>();
+        all.add(() -> Edges.with(3, 4, 5));
+        // over one another, in THE OTHER the last order
+        all.add(() -> Edges.with(0, 5, 1, 0, 5, 2));
+        all.add(() -> netted(new int[] {3, 9, 6, 9}, 0, 10, 1, 0, 10, 1, 0, 10, 1));
+        all.add(() -> netted(new int[] {3, 9, 6, 9, 12, 9}, 0, 10, 1, 0, 10, 1, 0, 10, 1, 0, 10, 1));
+        // in THE ONE the last order
+        all.add(() -> netted(new int[] {5, 5, 5, 8}, 0, 5, 2, 0, 6, 2, 0, 2, 3));
+        all.add(() -> netted(new int[] {3, 8}, 0, 7, 4, 0, 2, 3, 0, 2, 7));
+        all.add(() -> netted(new int[] {12, 6}, 0, 3, 6, 0, 9, 4, 0, 1, 1, 0, 6, 4));
+        all.add(() -> netted(new int[] {5, 2, 6, 2}, 0, 4, 1, 0, 8, 9, 0, 1, 8, 0, 1, 9));
+        for (int state = 0; state < 8; state++) {
+            int bits = state;
+            all.add(() -> turned(bits));
+        }
+        return all;
+    }
+
+    private static ChipFloor netted(int[] nets, int... blocks) {
+        ChipFloor x = Edges.with(blocks);
+        for (int i = 0; i < nets.length; i += 2) {
+            x.net(nets[i], nets[i + 1]);
+        }
+        return x;
+    }
+
+    /** Three blocks in some of their shapes, those of the bits on LAYER 1, and rows that are not the first ones. */
+    private static ChipFloor turned(int bits) {
+        ChipFloor x = netted(new int[] {5, 3, 6, 1}, 1, 5, 2, 5, 3, 4, 2, 2, 6);
         x.rule(4, 5);
         for (int i = 0; i < 3; i++) {
-            for (int turn = 0; turn < (state + i) % 3; turn++) {
+            for (int turn = 0; turn < (bits + i) % 3; turn++) {
                 x.move(3, i, 0);
             }
-            if ((state >> i & 1) == 1) {
+            if ((bits >> i & 1) == 1) {
                 x.move(4, i, 0);
             }
         }
-        int[] orders = {one, other};
-        for (int row = 0; row < 2; row++) {
-            if (orders[row] % 2 == 1) {
-                x.move(row, 1, 2);
-            }
-            for (int i = 0; i < orders[row] / 2; i++) {
-                // goes round by one
-                x.move(row, 0, 1);
-                x.move(row, 1, 2);
+        x.move(0, bits % 3, 2);
+        x.move(1, 0, (bits + 1) % 3);
+        return x;
+    }
+
+    /** The least price of all rows, each laid by moves on an object of its own, then the first rows that have it. */
+    private static int[] firstOfTheLeast(Supplier<ChipFloor> made) {
+        int n = made.get().count(0);
+        List<List<Integer>> orders = new ArrayList<>();
+        addOrders(n, new ArrayList<>(), orders);
+        int[] found = new int[1 + 2 * n];
+        found[0] = MOST;
+        for (List<Integer> one : orders) {
+            for (List<Integer> other : orders) {
+                ChipFloor x = made.get();
+                arrange(x, 0, one);
+                arrange(x, 1, other);
+                if (x.whole(4) < found[0]) {
+                    found[0] = x.whole(4);
+                    for (int place = 0; place < n; place++) {
+                        found[1 + place] = one.get(place);
+                        found[1 + n + place] = other.get(place);
+                    }
+                }
             }
         }
-        return x;
+        return found;
+    }
+
+    /** All orders of n numbers that begin like this one, the lesser number first. */
+    private static void addOrders(int n, List<Integer> begun, List<List<Integer>> orders) {
+        if (begun.size() == n) {
+            orders.add(new ArrayList<>(begun));
+        }
+        for (int i = 0; i < n; i++) {
+            if (!begun.contains(i)) {
+                begun.add(i);
+                addOrders(n, begun, orders);
+                begun.remove(begun.size() - 1);
+            }
+        }
+    }
+
+    private static void arrange(ChipFloor x, int row, List<Integer> order) {
+        for (int place = 0; place < order.size(); place++) {
+            int from = place;
+            while (x.at(row, from) != order.get(place)) {
+                from++;
+            }
+            x.move(row, place, from);
+        }
     }
 
     private void best() {
@@ -779,40 +838,25 @@ final class EdgesOfLayings {
         for (int i = 0; i < 8; i++) {
             e.due(i % 4, x, "best", i / 4, i % 4);
         }
-        int[] numbers = {0, 1, 2, 0, 2, 1, 1, 0, 2, 1, 2, 0, 2, 0, 1, 2, 1, 0};
-        for (int state = 0; state < 6; state++) {
-            int least = MOST;
-            int first = 0;
-            for (int i = 0; i < 36; i++) {
-                int price = inOrder(state, numbers, i).whole(4);
-                if (price < least) {
-                    least = price;
-                    first = i;
-                }
-            }
-            ChipFloor y = ordered(state, 3, 2);
-            for (int place = 0; place < 3; place++) {
-                e.due(numbers[first / 6 * 3 + place], y, "best", 0, place);
-                e.due(numbers[first % 6 * 3 + place], y, "best", 1, place);
+        for (Supplier<ChipFloor> made : searched()) {
+            int[] found = firstOfTheLeast(made);
+            int n = (found.length - 1) / 2;
+            ChipFloor y = made.get();
+            for (int i = 0; i < 2 * n; i++) {
+                e.due(found[1 + i], y, "best", i / n, i % n);
             }
         }
-    }
-
-    /** The laying whose rows are the orders i / 6 and i % 6, those of lesser numbers first. */
-    private static ChipFloor inOrder(int state, int[] numbers, int i) {
-        ChipFloor x = ordered(state, 0, 0);
-        int[] orders = {i / 6, i % 6};
-        for (int row = 0; row < 2; row++) {
-            for (int place = 0; place < 3; place++) {
-                int wanted = numbers[orders[row] * 3 + place];
-                int from = place;
-                while (x.at(row, from) != wanted) {
-                    from++;
-                }
-                x.move(row, place, from);
-            }
+        // over one another in a row of nets: 0 at the top comes first
+        ChipFloor pile = netted(new int[] {3, 9, 6, 9, 12, 9}, 0, 10, 1, 0, 10, 1, 0, 10, 1, 0, 10, 1);
+        e.due(40 + 9 * 6, pile, "bound", 3);
+        for (int place = 0; place < 4; place++) {
+            e.due(place, pile, "best", 0, place);
+            e.due(3 - place, pile, "best", 1, place);
         }
-        return x;
+        ChipFloor last = netted(new int[] {12, 6}, 0, 3, 6, 0, 9, 4, 0, 1, 1, 0, 6, 4);
+        for (int place = 0; place < 4; place++) {
+            e.due(3 - place, last, "best", 0, place);
+        }
     }
 
     private void touch() {

@@ -173,6 +173,20 @@ final class EdgesOfWishes {
         e.due(FULL, full, "wish");
         e.due(0, full, "count", 8);
         e.due(12, full, "feed", 0, 0, 0);
+        // a text that is read behind a faulty one is read from its own beginning
+        ChipFloor behind = two();
+        String[] faulty = {"all x", "all 12345", "7", "x", "all w 7", "all w x", "all w+", "all (w", "block 9 x", "block 1x", "", "  ", "all !!!!!!!!!w", "all ((((((((("};
+        for (int i = 0; i < faulty.length; i++) {
+            int answer = Due.wish(two(), faulty[i]);
+            Due.tape(behind, faulty[i]);
+            e.due(answer, behind, "wish");
+            Due.tape(behind, i % 2 == 0 ? "all 1" : "block 0 1");
+            e.due(i < 10 ? i : FULL, behind, "wish");
+            if (i < 10) {
+                e.due(1, behind, "of", i, 3);
+                e.due(1, behind, "of", i, 1);
+            }
+        }
         String longest = "all 1" + "+1".repeat(45) + " ";
         e.is("bytes", longest.length(), 96);
         gives(46, longest);
