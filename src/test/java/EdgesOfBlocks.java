@@ -369,6 +369,20 @@ final class EdgesOfBlocks {
         stand(w, 0, 0, 0, 0, 4, 0, 3, 0);
         w.move(4, 2, 0);
         stand(w, 0, 0, 0, 0, 3, 0, 5, 0);
+        placesInAllOrders(0, 0, 0, 0);
+        placesInAllOrders(0, 1, 1, 0);
+    }
+
+    private void placesInAllOrders(int... layers) {
+        int[] wide = {5, 2, 9, 3};
+        int[] high = {4, 7, 1, 6};
+        for (Orders orders : Orders.all(layers)) {
+            ChipFloor x = orders.laid(Edges.with(0, 5, 4, 0, 2, 7, 0, 9, 1, 0, 3, 6));
+            for (int i = 0; i < wide.length; i++) {
+                e.due(orders.x(i, wide), x, "told", i, 10);
+                e.due(orders.y(i, high), x, "told", i, 11);
+            }
+        }
     }
 
     private void heats() {
@@ -456,6 +470,18 @@ final class EdgesOfBlocks {
         e.due(0, z, "told", 1, 14);
         e.due(0, z, "told", 2, 14);
         e.due(5, z, "told", 2, 10);
+        growsInAllOrders(0, 0, 0, 0);
+        growsInAllOrders(1, 0, 1, 1);
+    }
+
+    private void growsInAllOrders(int... layers) {
+        int[] wide = {5, 2, 9, 3};
+        for (Orders orders : Orders.all(layers)) {
+            ChipFloor x = orders.laid(Edges.with(0, 5, 1, 0, 2, 1, 0, 9, 1, 0, 3, 1));
+            for (int i = 0; i < wide.length; i++) {
+                e.due(orders.grows(i, wide), x, "told", i, 14);
+            }
+        }
     }
 
     private void as() {

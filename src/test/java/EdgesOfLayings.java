@@ -218,6 +218,19 @@ final class EdgesOfLayings {
             e.due(c[2], x, "stands", 0, 7);
             e.due(c[3], x, "stands", 7, 0);
         }
+        standsInAllOrders(0, 0, 0, 0);
+        standsInAllOrders(0, 1, 0, 1);
+    }
+
+    private void standsInAllOrders(int... layers) {
+        for (Orders orders : Orders.all(layers)) {
+            ChipFloor x = orders.laid(alike(layers.length, 0, 1, 1));
+            for (int i = 0; i < layers.length; i++) {
+                for (int j = 0; j < layers.length; j++) {
+                    e.due(i == j ? BAD : orders.standing(i, j), x, "stands", i, j);
+                }
+            }
+        }
     }
 
     private void moveRefused() {

@@ -478,6 +478,19 @@ final class EdgesOfWishes {
         fault(13, "all ((((((((!(w)))))))))");
         fault(20, "all !!!!!!!!((((((((!w))))))))");
         fault(20, "all ((((((((!!!!!!!!(w)))))))))");
+        // behind every sign those around it still count, and those of the side ahead of it don't
+        String signs = "|&<=>+-*/";
+        int[] given = {1, 1, 0, 0, 1, 8, 4, 12, 3};
+        for (int i = 0; i < signs.length(); i++) {
+            char sign = signs.charAt(i);
+            gives(given[i], "all (((((((w" + sign + "(2))))))))");
+            gives(given[i], "all ((((((((w)" + sign + "(2))))))))");
+            fault(14, "all ((((((((w" + sign + "(2)))))))))");
+            fault(16, "all ((((((((w " + sign + " (2)))))))))");
+            gives(sign == '=' ? 0 : 1, "all !!!!!!!(!1" + sign + "!1)");
+            fault(15, "all !!!!!!!!(1" + sign + "!1)");
+            fault(16, "all !!!!!!!(!1" + sign + "!!1)");
+        }
     }
 
     private void end() {
