@@ -27,6 +27,7 @@ final class EdgesOfWishes {
         end();
         ofRefused();
         ofEach();
+        ofTextsBehindOthers();
         wrap();
         divide();
         truth();
@@ -542,6 +543,29 @@ final class EdgesOfWishes {
         e.due(1, x, "of", 6, 2);
         x.move(0, 0, 1);
         e.due(0, x, "of", 6, 2);
+    }
+
+    private void ofTextsBehindOthers() {
+        e.says(23, "1 how many NUMBERS and NAMES it has (B not), 2 whether it is MET (1, 0), 3 what its E gives");
+        String[] texts = {"all 7", "all !0", "all !!7", "all 7+!0", "all 7+8", "all !(7+8)", "all 7+8*9", "all !7+!!8", "block 0 w", "block 0 !x", "block 1 !w", "block 1 w*!y"};
+        int[] given = {7, 1, 1, 8, 15, 0, 79, 1, 4, 1, 0, 2};
+        int[] operands = {1, 1, 1, 2, 2, 2, 3, 2, 1, 1, 1, 2};
+        for (int i = 0; i < texts.length; i++) {
+            for (int j = 0; j < texts.length; j++) {
+                ChipFloor x = two();
+                Due.wish(x, texts[i]);
+                // the longer one has a fault at its end, and stays no wish
+                Due.wish(x, texts[i] + "+");
+                Due.wish(x, texts[j]);
+                int[] are = {i, j};
+                for (int wish = 0; wish < 2; wish++) {
+                    e.due(operands[are[wish]], x, "of", wish, 1);
+                    e.due(given[are[wish]] != 0 ? 1 : 0, x, "of", wish, 2);
+                    e.due(given[are[wish]], x, "of", wish, 3);
+                }
+                e.due((given[i] != 0 ? 1 : 0) + (given[j] != 0 ? 1 : 0), x, "count", 3);
+            }
+        }
     }
 
     private void wrap() {
