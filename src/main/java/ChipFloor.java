@@ -11,6 +11,8 @@ public final class ChipFloor {
 
     private static final int IN_ONE = 0, IN_OTHER = 1, IN_BOTH = 2, NEXT_SHAPE = 3, NEXT_LAYER = 4, MOVES = 5;
 
+    private static final int LEAST_INT = -2147483648, MOST_INT = 2147483647;
+
     private static final int MOST_BLOCKS = 8, MOST_NETS = 10, MOST_UNDONE = 20, MOST_SEARCHED = 4;
     private static final int[] ORDERS = {1, 1, 2, 6, 24};
 
@@ -905,10 +907,10 @@ public final class ChipFloor {
             int set = netSets[net];
             int there = 0;
             int layers = 0;
-            int leastX = Integer.MAX_VALUE;
-            int mostX = Integer.MIN_VALUE;
-            int leastY = Integer.MAX_VALUE;
-            int mostY = Integer.MIN_VALUE;
+            int leastX = MOST_INT;
+            int mostX = LEAST_INT;
+            int leastY = MOST_INT;
+            int mostY = LEAST_INT;
             for (int i = 0; i < count; i++) {
                 if ((set >> i & 1) == 1) {
                     Block block = blocks[i];
@@ -1109,7 +1111,7 @@ public final class ChipFloor {
                 return SPENT;
             }
             trial.takeFrom(floor);
-            int least = Integer.MAX_VALUE;
+            int least = MOST_INT;
             firstOrder(trial.one, many);
             for (int i = 0; i < ORDERS[many]; i++) {
                 firstOrder(trial.other, many);

@@ -11,8 +11,10 @@ import java.util.function.Supplier;
 final class Edges {
     static final int LEAST = Integer.MIN_VALUE, MOST = Integer.MAX_VALUE;
     private static final int PROMISES = 40;
+    private static final String SAID = "\n";
 
     private final String document;
+    private final StringBuilder unsaid;
     private final int[] sentences = new int[PROMISES + 1];
     private String said = "";
     private int askedOfIt = 1;
@@ -20,7 +22,14 @@ final class Edges {
     private int wrong;
 
     Edges(Path file) throws IOException {
-        document = Files.readString(file).replaceAll("\\s+", " ");
+        document = sentencesOf(Files.readString(file));
+        unsaid = new StringBuilder(document);
+    }
+
+    /** The document as one line, without what frames its sentences: fences, parts' numbers, headings, the calls' own lines. */
+    private static String sentencesOf(String text) {
+        String frames = "```[a-z]*|={8} [0-9] |## Promise .*|`(int |ChipFloor\\().*?`:|Ahead of the calls .*";
+        return text.replaceAll(frames, " ").replaceAll("\\s+", " ");
     }
 
     /** What follows is held against these words, which must stand in the document. */
@@ -31,6 +40,20 @@ final class Edges {
         askedOfIt = 0;
         if (!document.contains(words)) {
             fail("the document does not say so");
+        }
+        for (int at = document.indexOf(words); at >= 0; at = document.indexOf(words, at + 1)) {
+            unsaid.replace(at, at + words.length(), SAID.repeat(words.length()));
+        }
+    }
+
+    /** What the document promises from its terms on must all have been said. */
+    private void leaveNothingUnsaid() {
+        said = "";
+        String promised = unsaid.substring(document.indexOf("## Terms") + "## Terms".length(), document.indexOf("## Not promised"));
+        for (String left : promised.split(SAID)) {
+            if (left.matches(".*[a-zA-Z0-9].*")) {
+                fail("the document says what no test says: " + left);
+            }
         }
     }
 
@@ -69,6 +92,7 @@ final class Edges {
 
     void end() {
         endSentence();
+        leaveNothingUnsaid();
         int all = 0;
         for (int promise = 1; promise <= PROMISES; promise++) {
             all += sentences[promise];

@@ -219,11 +219,16 @@ final class EdgesOfBlocks {
     }
 
     private void toldWhats() {
-        e.says(3, "12 how many SHAPES it has, 13 HEAT, 14 GROWS. BAD.");
+        e.says(3, "Of a BLOCK: what 0 KIND, 1 a, 2 b, 3 POWER, 4 LAYER, 5 SHAPE, 6 WIDTH, 7 HEIGHT, 8 ROOM, 9 WORTH, 10 X, 11 Y, 12 how many SHAPES it has, 13 HEAT, 14 GROWS. BAD.");
         ChipFloor x = Edges.with(0, 7, 5);
         int[] want = {0, 7, 5, 0, 0, 0, 7, 5, 35, 35, 0, 0, 1, 0, 0};
         for (int what = 0; what < 15; what++) {
             e.due(want[what], x, "told", 0, what);
+        }
+        int[] unlike = {2, 10, 9, 50, 1, 3, 13, 7, 90, 87, 12, 14, 6, 205, 4};
+        ChipFloor y = toldUnlike();
+        for (int what = 0; what < 15; what++) {
+            e.due(unlike[what], y, "told", 2, what);
         }
         for (int what : new int[] {-1, 15, LEAST, MOST}) {
             e.refusedInAllStates(BAD, "told", 0, what);
@@ -235,6 +240,19 @@ final class EdgesOfBlocks {
         e.refused(BAD, States::some, "told", 3, 0);
         e.due(2, States.some(), "told", 2, 2);
         e.due(1, States.full(), "told", 7, 0);
+    }
+
+    /** Of its block 2 no two answers are alike: 0 is LEFT of it, 1 BELOW it, and 3, on the other LAYER, makes THE WIDTH. */
+    private static ChipFloor toldUnlike() {
+        ChipFloor x = Edges.with(0, 12, 1, 0, 1, 14, 2, 10, 9, 0, 29, 1);
+        x.power(1, 5);
+        x.power(2, 50);
+        x.move(0, 1, 2);
+        for (int block = 0; block < 3; block++) {
+            x.move(4, block, 0);
+            x.move(3, 2, 0);
+        }
+        return x;
     }
 
     /** Kind, a, b, then the width and height of each shape. */
@@ -623,7 +641,7 @@ final class EdgesOfBlocks {
         x.block(0, 1, 1);
         // middles 1 and 15 in x
         e.due(9 * 14, x, "wire", 0, 0);
-        e.says(8, "of its BLOCKS that there are, the middles being 2 X and WIDTH, 2 Y and HEIGHT: the greatest less the least middle in x, and likewise in y");
+        e.says(8, "WIRE of a NET: of its BLOCKS that there are, the middles being 2 X and WIDTH, 2 Y and HEIGHT: the greatest less the least middle in x, and likewise in y");
         ChipFloor y = new ChipFloor();
         y.net(255, 9);
         for (int i = 0; i < 8; i++) {
@@ -671,7 +689,7 @@ final class EdgesOfBlocks {
     }
 
     private void guesses() {
-        e.says(8, "WEIGHT times 2 times the whole root (cut) of all ROOMS of its BLOCKS that there are together; MISS: WIRE less GUESS");
+        e.says(8, "GUESS of a NET: WEIGHT times 2 times the whole root (cut) of all ROOMS of its BLOCKS that there are together; MISS: WIRE less GUESS");
         int[][] roots = {{1, 1}, {3, 1}, {4, 2}, {8, 2}, {9, 3}, {15, 3}, {16, 4}, {24, 4}, {25, 5}};
         for (int[] root : roots) {
             ChipFloor x = Edges.with(0, root[0], 1);

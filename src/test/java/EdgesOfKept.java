@@ -59,7 +59,7 @@ final class EdgesOfKept {
     }
 
     private void stowed() {
-        e.says(26, "what 0 THE WIDTH times THE HEIGHT, 1 WIRES, 2 HEAT, 3 whether it is BEATEN (1, 0). BAD.");
+        e.says(26, "Of a KEPT LAYING: what 0 THE WIDTH times THE HEIGHT, 1 WIRES, 2 HEAT, 3 whether it is BEATEN (1, 0). BAD.");
         for (int laying : new int[] {-1, 8, LEAST, MOST}) {
             e.refusedInAllStates(BAD, "stowed", laying, 0);
         }

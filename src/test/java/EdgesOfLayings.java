@@ -191,7 +191,7 @@ final class EdgesOfLayings {
     }
 
     private void stands() {
-        e.says(11, "0 LEFT, 1 BELOW, 2 j is LEFT of it, 3 j is BELOW it; NONE: they are on unlike LAYERS. BAD: also if they are one.");
+        e.says(11, "How i stands to j: 0 LEFT, 1 BELOW, 2 j is LEFT of it, 3 j is BELOW it; NONE: they are on unlike LAYERS. BAD: also if they are one.");
         for (int out : new int[] {-1, 8, LEAST, MOST}) {
             e.refusedInAllStates(BAD, "stands", out, 0);
             e.refusedInAllStates(BAD, "stands", 0, out);
@@ -266,7 +266,7 @@ final class EdgesOfLayings {
     }
 
     private void movesOfRows() {
-        e.says(12, "0: the BLOCKS at places p and q of THE ONE change places there; 1: likewise of THE OTHER; 2: two BLOCKS (numbered p, q) change places in both rows");
+        e.says(12, "MOVES: 0: the BLOCKS at places p and q of THE ONE change places there; 1: likewise of THE OTHER; 2: two BLOCKS (numbered p, q) change places in both rows");
         ChipFloor x = Edges.with(0, 1, 1, 0, 1, 1, 0, 1, 1, 0, 1, 1);
         e.due(6, x, "move", 0, 0, 3);
         rowsAre(x, 3, 1, 2, 0, 0, 1, 2, 3);
@@ -499,7 +499,7 @@ final class EdgesOfLayings {
     }
 
     private void walkTakes() {
-        e.says(15, "z becomes z * 1103515245 + 12345 (an int; told, 1 at first)");
+        e.says(15, "A WALK of n STEPS at a heat h: each STEP: z becomes z * 1103515245 + 12345 (an int; told, 1 at first)");
         for (int seed : new int[] {0, 1, -1, LEAST, MOST, 123456789}) {
             ChipFloor x = Edges.with(0, 1, 1, 4, 2, 2);
             x.seed(seed);
@@ -573,7 +573,7 @@ final class EdgesOfLayings {
     }
 
     private void walkHeat() {
-        e.says(15, "stays if PRICE is not greater than ahead, or is by less than h; else all is as ahead of it");
+        e.says(15, "if it can be done it is done, and stays if PRICE is not greater than ahead, or is by less than h; else all is as ahead of it");
         // 6 by 2, 2 by 6, 7 by 1: 12, 12, and 7 with 9 for being out by 1
         int seed = seedOf(3);
         for (int heat = 0; heat <= 9; heat++) {
@@ -669,7 +669,7 @@ final class EdgesOfLayings {
     }
 
     private void boundsOfRooms() {
-        e.says(16, "0 the sum of ROOMS of BLOCKS on LAYER 0, and on 1, the greater");
+        e.says(16, "BOUNDS: 0 the sum of ROOMS of BLOCKS on LAYER 0, and on 1, the greater");
         ChipFloor x = Edges.with(0, 3, 3, 3, 2, 4, 5, 1, 1);
         // rooms 9, 9, 0
         e.due(18, x, "bound", 0);
@@ -884,7 +884,7 @@ final class EdgesOfLayings {
         for (int i = 0; i < 3; i++) {
             e.refused(BAD, States::some, "touch", i, i);
         }
-        e.says(18, "two BLOCKS of one LAYER touch, if a side of the one lies along a side of the other one for 1 or more");
+        e.says(18, "TOUCH: two BLOCKS of one LAYER touch, if a side of the one lies along a side of the other one for 1 or more");
         // 0 at (0, 0), 1 above it, 2 right of 0 and below 1: they meet by how wide and high 0 is
         int[][] cases = {{2, 2, 2, 0}, {2, 3, 2, 1}, {2, 3, 1, 0}, {3, 1, 1, 0}};
         for (int[] c : cases) {

@@ -108,7 +108,7 @@ final class EdgesOfSheets {
             e.refusedInAllStates(BAD, "mark", sheet, 0, 1);
             e.refused(BAD, States::some, "mark", sheet, 99, 1);
         }
-        e.says(29, "NOTHING: a SHEET is MISSING, a SLOT holds nothing");
+        e.says(29, "FINDINGS: NOTHING: a SHEET is MISSING, a SLOT holds nothing");
         for (int sheet = 2; sheet < 4; sheet++) {
             for (int place : new int[] {0, -1, 24, LEAST, MOST}) {
                 e.refused(NOTHING, States::some, "mark", sheet, place, 1);

@@ -524,7 +524,7 @@ final class EdgesOfWishes {
     }
 
     private void ofEach() {
-        e.says(23, "what 0 its BLOCK (8: all), 1 how many NUMBERS and NAMES it has (B not), 2 whether it is MET (1, 0)");
+        e.says(23, "Of a WISH: what 0 its BLOCK (8: all), 1 how many NUMBERS and NAMES it has (B not), 2 whether it is MET (1, 0)");
         ChipFloor x = two();
         String[] texts = {"all 1", "block 0 1", "block 7 x", "all w+1*h", "block 1 !x&(2|y)", "all 1" + "+1".repeat(45)};
         int[] blocks = {8, 0, 7, 8, 1, 8};

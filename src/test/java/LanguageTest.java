@@ -7,12 +7,16 @@ import java.nio.file.Path;
 import java.util.ArrayList;
 import java.util.List;
 import java.util.TreeSet;
+import java.util.regex.Matcher;
+import java.util.regex.Pattern;
 
 /** What of LANGUAGE.md and of the document's face can be looked at from outside. Run from the project's own directory. */
 public final class LanguageTest {
     private static final String FACE = "block3 told2 as2 power2 rule2 net2 wire2 at2 whole1 stands2 move3 undo0 seed1 walk2 bound1 best2 touch2 hottest0"
         + " feed3 trim1 wish0 of2 missed0 stow0 stowed2 front0 sheet3 mark3 powers2 copy5 lay3 ask2 item2 rest2 tell1 check1 keep0 back0 count1";
     private static final String CONSTANTS = "BAD NO FULL SPENT NONE NOTHING KIND INDEX SIZE";
+    /** The first line of a method or constructor of the class or of a class inside it. */
+    private static final String HEAD = " {4}( {4})?(?!if |for |while |switch |do )[a-zA-Z].*\\) \\{";
     private static final Due due = new Due();
 
     public static void main(String[] args) throws IOException {
@@ -70,8 +74,10 @@ public final class LanguageTest {
         String[] none = {"\\bthrow\\b", "\\bthrows\\b", "\\btry\\b", "\\bcatch\\b", "\\bsynchronized\\b", "\\bassert\\b", "->", "::", "\\bimport\\b", "\\bpackage\\b",
             "\\bprotected\\b", "Exact\\b", "@", "\\bstatic\\s*\\{", "\\bequals\\b", "\\bhashCode\\b", "\\btoString\\b", "\\bObject\\b", "\\bvar\\b"};
         for (String word : none) {
-            due.is("rules 2, 4, 6: " + word, java.util.regex.Pattern.compile(word).matcher(code).find() ? 1 : 0, 0);
+            due.is("rules 2, 4, 6: " + word, Pattern.compile(word).matcher(code).find() ? 1 : 0, 0);
         }
+        library(code);
+        madeInConstructors(code.split("\n"));
         methodsAreShort(source.split("\n"));
         for (char c : source.toCharArray()) {
             if (c != '\n' && (c < 32 || c > 126)) {
@@ -80,13 +86,43 @@ public final class LanguageTest {
         }
     }
 
+    /** Rule 4 lists functions of Integer, Long and Math; their constants don't stand there. */
+    private static void library(String code) {
+        Matcher used = Pattern.compile("\\b[A-Z][a-z]\\w*\\.\\w+\\(?").matcher(code);
+        while (used.find()) {
+            boolean listed = used.group().matches("(Math|Integer|Long)\\.[a-z]\\w*\\(|System\\.arraycopy\\(|Arrays\\.(copyOf|copyOfRange|fill)\\(");
+            due.is("rule 4: " + used.group() + " is of the library's list", listed ? 1 : 0, 1);
+        }
+    }
+
+    /** Rule 12, and the room that all calls share: no call makes an object; fields and constructors may. */
+    private static void madeInConstructors(String[] lines) {
+        String head = "";
+        for (String line : lines) {
+            if (line.matches(HEAD)) {
+                head = line;
+            }
+            boolean made = Pattern.compile("\\bnew\\b").matcher(line).find();
+            boolean inCall = !head.isEmpty() && !head.strip().matches("(public |private )?[A-Z]\\w*\\(.*");
+            due.is("rule 12: made in a call: " + line.strip(), made && inCall ? 1 : 0, 0);
+            if (line.equals(closeOf(head))) {
+                head = "";
+            }
+        }
+    }
+
+    /** The last line of what has this first line. */
+    private static String closeOf(String head) {
+        return " ".repeat(head.length() - head.stripLeading().length()) + "}";
+    }
+
     private static void methodsAreShort(String[] lines) {
         int begin = 0;
         String close = "";
         for (int i = 0; i < lines.length; i++) {
-            if (lines[i].matches(" {4}( {4})?[a-zA-Z].*\\) \\{")) {
+            if (lines[i].matches(HEAD)) {
                 begin = i;
-                close = " ".repeat(lines[i].length() - lines[i].stripLeading().length()) + "}";
+                close = closeOf(lines[i]);
             }
             if (lines[i].equals(close)) {
                 due.is("rule 11: the method at line " + (begin + 1) + " is short", i - begin <= 60 ? 1 : 0, 1);
